@@ -1067,24 +1067,32 @@ public final class MindPost {
         private final byte[] text;
         private int length = 0;
         /** Where each starts times STARTS, and its code. */
-        private final int[] row = new int[LONGEST_TEXT + 1];
+        private final int[] row = new int[LONGEST_TEXT];
         private int size = 0;
+        private int at = 0;
+        /** The one at hand: its kind, where it starts, and, of a number, what it is. */
+        int kind = TEXT_END;
+        int startsAt = 0;
+        int value = NONE;
 
         Tokens(byte[] text) {
             this.text = text;
         }
 
-        int codeAt(int i) {
-            return i >= 0 && i < size ? row[i] % STARTS : KINDS + TEXT_END;
-        }
-
-        int startAt(int i) {
-            return i >= 0 && i < size ? row[i] / STARTS : length;
+        /** The next one comes to hand. */
+        void step() {
+            boolean more = at < size;
+            int code = more ? row[at] % STARTS : KINDS + TEXT_END;
+            startsAt = more ? row[at] / STARTS : length;
+            kind = code < KINDS ? NUMBER : code - KINDS;
+            value = code < KINDS ? code : NONE;
+            at += more ? 1 : 0;
         }
 
         void readAll(int n) {
             length = Math.min(n, text.length);
             size = 0;
+            at = 0;
             int next = 0;
             for (int i = 0; i < LONGEST_TEXT; i++) {
                 int start = endOf(next, ' ');
@@ -1175,11 +1183,6 @@ public final class MindPost {
         int fault = 0;
         int faultPlace = NONE;
         private final Tokens tokens;
-        private int at = 0;
-        /** The kind of the TOKEN at hand. */
-        private int kind = TEXT_END;
-        /** If it is a number, that; else NONE. */
-        private int value = NONE;
         private int law = MINDS_LAW;
 
         Reader(byte[] text) {
@@ -1192,44 +1195,37 @@ public final class MindPost {
             told.clear();
             now.clear();
             tokens.readAll(length);
-            step(0);
+            tokens.step();
             take(W_PLACES);
             told.places = takeNumber(FEWEST_PLACES, MOST_PLACES);
             take(SEMICOLON);
             told.lines = 1;
-            for (int i = 0; i < LONGEST_TEXT && fault == 0 && kind != TEXT_END; i++) {
+            for (int i = 0; i < LONGEST_TEXT && fault == 0 && tokens.kind != TEXT_END; i++) {
                 readLine();
                 take(SEMICOLON);
                 told.lines++;
             }
         }
 
-        private void step(int next) {
-            at = next;
-            int code = tokens.codeAt(at);
-            kind = code < KINDS ? NUMBER : code - KINDS;
-            value = code < KINDS ? code : NONE;
-        }
-
         private void fail(int why) {
             if (fault == 0) {
-                fault = kind == BROKEN ? 1 : why;
-                faultPlace = tokens.startAt(at);
+                fault = tokens.kind == BROKEN ? 1 : why;
+                faultPlace = tokens.startsAt;
             }
         }
 
         private void take(int wanted) {
-            if (kind != wanted) {
+            if (tokens.kind != wanted) {
                 fail(2);
             }
             if (fault == 0) {
-                step(at + 1);
+                tokens.step();
             }
         }
 
         private int takeNumber(int low, int high) {
-            int number = value;
-            if (kind == NUMBER && (number < low || number > high)) {
+            int number = tokens.value;
+            if (tokens.kind == NUMBER && (number < low || number > high)) {
                 fail(3);
             }
             take(NUMBER);
@@ -1237,7 +1233,7 @@ public final class MindPost {
         }
 
         private void readLine() {
-            switch (kind) {
+            switch (tokens.kind) {
                 case W_PERSON:
                     readPerson();
                     break;
@@ -1270,7 +1266,7 @@ public final class MindPost {
             take(W_AT);
             now.place[p] = takeNumber(0, told.places - 1);
             told.home[p] = now.place[p];
-            for (int i = 0; i < LONGEST_TEXT && fault == 0 && isFlag(kind); i++) {
+            for (int i = 0; i < LONGEST_TEXT && fault == 0 && isFlag(tokens.kind); i++) {
                 readFlag(p);
             }
             told.people = p + 1;
@@ -1281,7 +1277,7 @@ public final class MindPost {
         }
 
         private void readFlag(int p) {
-            int flag = kind;
+            int flag = tokens.kind;
             take(flag);
             if (flag == W_HOME) {
                 told.home[p] = takeNumber(0, told.places - 1);
@@ -1298,7 +1294,7 @@ public final class MindPost {
             take(W_CARES);
             int who = takeNumber(0, told.people - 1);
             take(W_FOR);
-            if (value == who && fault == 0) {
+            if (tokens.value == who && fault == 0) {
                 fail(3);
             }
             int of = takeNumber(0, told.people - 1);
@@ -1310,7 +1306,7 @@ public final class MindPost {
 
         private void readLaw(int which) {
             law = which;
-            take(kind);
+            take(tokens.kind);
             take(COLON);
             told.laws.begin(law);
             readSum(0);
@@ -1324,7 +1320,7 @@ public final class MindPost {
         private void readSum(int depth) {
             readTerm(depth);
             for (int i = 0; i < LONGEST_TEXT && fault == 0; i++) {
-                int sign = kind;
+                int sign = tokens.kind;
                 if (sign != PLUS && sign != MINUS) {
                     return;
                 }
@@ -1336,7 +1332,7 @@ public final class MindPost {
 
         private void readTerm(int depth) {
             readAtom(depth);
-            for (int i = 0; i < LONGEST_TEXT && fault == 0 && kind == TIMES; i++) {
+            for (int i = 0; i < LONGEST_TEXT && fault == 0 && tokens.kind == TIMES; i++) {
                 take(TIMES);
                 readAtom(depth);
                 add(TIMES);
@@ -1347,10 +1343,11 @@ public final class MindPost {
             if (fault != 0) {
                 return;
             }
+            int kind = tokens.kind;
             if (kind == NUMBER) {
-                told.laws.add(value);
+                told.laws.add(tokens.value);
                 take(NUMBER);
-            } else if (isOfLaw()) {
+            } else if (isOfLaw(kind)) {
                 add(kind);
                 take(kind);
             } else if (kind == OPEN && mayNest(depth)) {
@@ -1382,7 +1379,7 @@ public final class MindPost {
             return fault == 0;
         }
 
-        private boolean isOfLaw() {
+        private boolean isOfLaw(int kind) {
             switch (kind) {
                 case W_WHO:
                 case W_OF:
@@ -1402,7 +1399,7 @@ public final class MindPost {
 
         private void readTruth(int depth) {
             readBoth(depth);
-            for (int i = 0; i < LONGEST_TEXT && fault == 0 && kind == W_OR; i++) {
+            for (int i = 0; i < LONGEST_TEXT && fault == 0 && tokens.kind == W_OR; i++) {
                 take(W_OR);
                 readBoth(depth);
                 add(W_OR);
@@ -1411,7 +1408,7 @@ public final class MindPost {
 
         private void readBoth(int depth) {
             readUnit(depth);
-            for (int i = 0; i < LONGEST_TEXT && fault == 0 && kind == W_AND; i++) {
+            for (int i = 0; i < LONGEST_TEXT && fault == 0 && tokens.kind == W_AND; i++) {
                 take(W_AND);
                 readUnit(depth);
                 add(W_AND);
@@ -1422,13 +1419,13 @@ public final class MindPost {
             if (fault != 0) {
                 return;
             }
-            if (kind == W_NOT) {
+            if (tokens.kind == W_NOT) {
                 if (mayNest(depth)) {
                     take(W_NOT);
                     readUnit(depth + 1);
                     add(W_NOT);
                 }
-            } else if (kind == OPEN_TRUTH) {
+            } else if (tokens.kind == OPEN_TRUTH) {
                 if (mayNest(depth)) {
                     take(OPEN_TRUTH);
                     readTruth(depth + 1);
@@ -1441,7 +1438,7 @@ public final class MindPost {
 
         private void readComparison(int depth) {
             readSum(depth);
-            int sign = kind;
+            int sign = tokens.kind;
             if (sign != SAME && sign != LESS && sign != MORE) {
                 fail(2);
             }

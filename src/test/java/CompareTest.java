@@ -11,6 +11,7 @@ public final class CompareTest {
         int first = args.length > 1 ? Integer.parseInt(args[1]) : 1;
         for (int seed = first; seed < first + runs && wrong < 10; seed++) {
             new Run(seed).go();
+            new Run(seed).goOverTexts();
         }
         System.out.println(wrong == 0 ? "both tell the same" : wrong + " answers are not the same");
         if (wrong != 0) {
@@ -35,8 +36,17 @@ public final class CompareTest {
             if (random.nextInt(5) > 0) {
                 tell(Texts.good(random));
             }
-            while (log.size() < 512 && !off) {
+            while (log.size() < 480 && !off) {
                 next();
+            }
+        }
+
+        void goOverTexts() {
+            for (int i = 0; i < 8 && !off; i++) {
+                String text = Texts.bad(random);
+                tell(text);
+                both("count", 1);
+                both("count", 8);
             }
         }
 
@@ -99,6 +109,27 @@ public final class CompareTest {
             }
         }
 
+        /** A way is listed, some of it forgotten or changed, and then asked after. */
+        void look() {
+            long t = tray();
+            long p = person();
+            long place = place();
+            int n = 1 + r(r(5) == 0 ? 13 : 5);
+            both("numbers", t, r(4), n);
+            both("lists", t, p, place);
+            for (int i = r(4); i > 0; i--) {
+                both("write", t, r(n), r(2) == 0 ? -1 : place());
+            }
+            if (r(2) == 0) {
+                both("move", r(2) == 0 ? p : person(), place());
+            }
+            both("seen", t, p, place);
+            both("probe", t, p, place, 1 + r(9));
+            both("heart", t, p, place, person());
+            both("heart", t, p, place, person());
+            both("suspects", t, p, place);
+        }
+
         void next() {
             int what = r(100);
             if (what < 2) {
@@ -109,8 +140,7 @@ public final class CompareTest {
             } else if (what < 6) {
                 fill();
             } else if (what < 9) {
-                both("numbers", tray(), r(4), 1 + r(5));
-                both("lists", tray(), person(), place());
+                look();
             } else if (what < 40) {
                 deed();
             } else if (what < 70) {

@@ -13,6 +13,8 @@ final class Texts {
     private final Random random;
     private final List<String> tokens = new ArrayList<>();
     private boolean inMinds;
+    /** Whether there may be more than six of what may be six. */
+    private boolean tooMuch = false;
 
     private Texts(Random random) {
         this.random = random;
@@ -31,8 +33,9 @@ final class Texts {
 
     static String bad(Random random) {
         Texts t = new Texts(random);
+        t.tooMuch = random.nextInt(2) == 0;
         t.draw();
-        int changes = 1 + random.nextInt(2);
+        int changes = random.nextInt(3);
         for (int i = 0; i < changes; i++) {
             int at = random.nextInt(t.tokens.size());
             String other = TOKENS[random.nextInt(TOKENS.length)];
@@ -69,11 +72,67 @@ final class Texts {
     }
 
     private void draw() {
+        if (r(3) > 0) {
+            drawLively();
+        } else {
+            drawAny();
+        }
+    }
+
+    /** A post whose letters get about: somebody nearly everywhere, who minds, and sends elsewhere. */
+    private void drawLively() {
+        int places = 3 + r(4);
+        int people = 4 + r(3);
+        add("places");
+        n(places);
+        add(";");
+        for (int p = 0; p < people; p++) {
+            add("person", "at");
+            n(r(3) == 0 ? r(places) : p % places);
+            add("home");
+            n(r(places));
+            if (r(3) > 0) {
+                add("away");
+                n(r(11));
+            }
+            if (r(4) == 0) {
+                add(r(2) == 0 ? "mood" : "family");
+                n(r(10));
+            }
+            add(";");
+        }
+        int law = r(4);
+        for (int who = 0; who < people && law > 0; who++) {
+            for (int of = 0; of < people; of++) {
+                if (who != of && r(4) > 0) {
+                    add("cares");
+                    n(who);
+                    add("for");
+                    n(of);
+                    n(law == 1 ? r(4) : r(10));
+                    add(";");
+                }
+            }
+        }
+        if (law == 0) {
+            String[] minds = {"cares + 1", "1 + kin", "cares * 2 + mood", "who - of + 3", "7 - cares", "who + cares"};
+            add("minds", ":");
+            add(minds[r(minds.length)].split(" "));
+            add(";");
+        }
+        String[] sends = {"own", "own", "at + 1", "at + who + 1", "own + of", "at * 2 + 1", "own - mood", "at - 1",
+            "if kin = 1 then own else home end", "if of < 3 then at + 1 else own end"};
+        add("sends", ":");
+        add(sends[r(sends.length)].split(" "));
+        add(";");
+    }
+
+    private void drawAny() {
         int places = 2 + r(5);
         add("places");
         n(places);
         add(";");
-        int people = r(8) == 0 ? r(3) : 2 + r(5);
+        int people = r(8) == 0 ? r(3) : 2 + r(5) + (tooMuch ? r(3) : 0);
         for (int p = 0; p < people; p++) {
             add("person", "at");
             n(r(places));
@@ -108,7 +167,7 @@ final class Texts {
         for (int i = r(3); i > 0; i--) {
             inMinds = r(2) == 0;
             add(inMinds ? "minds" : "sends", ":");
-            sum(6);
+            sum(tooMuch ? 8 : 6);
             add(";");
         }
         if (r(2) == 0) {
@@ -137,7 +196,7 @@ final class Texts {
     }
 
     private void atom(int depth) {
-        int what = r(10);
+        int what = tooMuch && depth < 7 && depth > 0 ? r(4) : r(10);
         if (depth > 0 && what == 0) {
             add("(");
             sum(depth - 1);
