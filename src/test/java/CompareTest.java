@@ -36,7 +36,7 @@ public final class CompareTest {
             if (random.nextInt(5) > 0) {
                 tell(Texts.good(random));
             }
-            while (log.size() < 480 && !off) {
+            while (log.size() < 460 && !off) {
                 next();
             }
         }
