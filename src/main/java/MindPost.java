@@ -227,7 +227,7 @@ public final class MindPost {
     }
 
     private int senderOf(int l) {
-        ways.aim(now, now.to[l]);
+        ways.aimAt(now, now.to[l], now.lie[l]);
         return ways.bestAt(now.lie[l], NONE);
     }
 
@@ -1468,6 +1468,11 @@ public final class MindPost {
         }
 
         void aim(Now by, int p) {
+            aimAt(by, p, NONE);
+        }
+
+        /** For one step from a PLACE (NONE: from any) alone: only whoever is there is reckoned out. */
+        void aimAt(Now by, int p, int only) {
             now = by;
             to = p;
             target = now.place[p];
@@ -1476,7 +1481,7 @@ public final class MindPost {
                 int at = now.place[q];
                 where[q] = at;
                 mind[q] = 0;
-                if (q != p) {
+                if (q != p && (only == NONE || at == only)) {
                     mind[q] = mindWith(q, careOf(q));
                     goal[q * MOST_PLACES + at] = goalFrom(q, at);
                 }
@@ -1763,7 +1768,7 @@ public final class MindPost {
             int came = 0;
             for (int l = 0; l < now.letters; l++) {
                 if (now.given[l] == NONE) {
-                    ways.aim(now, now.to[l]);
+                    ways.aimAt(now, now.to[l], days == 1 ? now.lie[l] : NONE);
                     came += carry(now, l, days);
                 }
             }

@@ -36,7 +36,7 @@ public final class CompareTest {
             if (random.nextInt(5) > 0) {
                 tell(Texts.good(random));
             }
-            while (log.size() < 460 && !off) {
+            while (log.size() < 455 && !off) {
                 next();
             }
         }
@@ -94,6 +94,9 @@ public final class CompareTest {
             both("post", text.length());
             both("fault", 0);
             both("fault", 1);
+            for (int i = 0; i < 3; i++) {
+                both(r(2) == 0 ? "minds" : "would", r(6), r(6));
+            }
         }
 
         void fill() {

@@ -128,6 +128,13 @@ public final class PromiseTest {
         due("nothing to undo", x.count(6), 0);
         due("day", x.count(4), 3);
         due("cares", x.count(5), 15);
+        due("a bare post", Calls.tell(x, "places 3;person at 1;person at 1;person at 1;"), 4);
+        due("day", x.count(4), 0);
+        due("cares", x.count(5), 0);
+        for (int what = 2; what < 6; what++) {
+            due("flags", x.person(2, what), 0);
+        }
+        due("law", x.would(0, 1), 1);
         due("a text of 900", Calls.tell(x, "places 2;" + "day 1;".repeat(148) + "\n\n "), 149);
     }
 
@@ -148,6 +155,11 @@ public final class PromiseTest {
         textFault("places 2;;", 2, 9);
         textFault("places 2;\tday 1;", 1, 9);
         textFault("places 2;Day 1;", 1, 9);
+        textFault("places 2;days 1;", 2, 9);
+        textFault("places 2;z;", 2, 9);
+        textFault("places 2;{;", 1, 9);
+        textFault("places 2;`;", 1, 9);
+        textFault("places 2;day /;", 1, 13);
         textFault("places 2;day 1" + (char) 233 + ";", 1, 14);
         textFault("places 2;day 1234;", 1, 13);
         textFault("places 2;day;", 2, 12);
@@ -214,6 +226,9 @@ public final class PromiseTest {
         due("if", mindsBy("if cares = 3 then 1 else 2 end"), 1);
         due("else", mindsBy("if cares < 3 then 1 else 2 end"), 2);
         due("more", mindsBy("if cares > 2 then 1 else 2 end"), 1);
+        due("not more", mindsBy("if cares > 3 then 1 else 2 end"), 2);
+        due("not the same", mindsBy("if cares = 4 then 1 else 2 end"), 2);
+        due("less", mindsBy("if cares < 4 then 1 else 2 end"), 1);
         due("and first", mindsBy("if 1 = 1 or 1 = 1 and 1 = 2 then 1 else 2 end"), 1);
         due("square", mindsBy("if [1 = 1 or 1 = 1] and 1 = 2 then 1 else 2 end"), 2);
         due("not", mindsBy("if not 1 = 2 and 1 = 1 then 1 else 2 end"), 1);
@@ -497,7 +512,8 @@ public final class PromiseTest {
             } else {
                 int a = next(draw, 6);
                 int b = next(draw, kind == 5 ? 10 : 6);
-                int got = kind == 2 ? y.mail(a, b) : kind == 3 ? y.move(a, b) : kind == 4 ? y.arouse(a, b) : y.mood(a, b);
+                int got = kind == 2 ? y.mail(a, b)
+                    : kind == 3 ? y.move(a, b) : kind == 4 ? y.arouse(a, b) : y.mood(a, b);
                 could += got < 0 ? 0 : 1;
             }
         }
@@ -679,6 +695,7 @@ public final class PromiseTest {
         due("person", x.found(5), -2);
         begin(30, "places 4;person at 0;person at 1;person at 2;person at 3;minds : 1;sends : 2;");
         due("where all goes", x.found(0), 2);
+        due("of like ones the first", x.found(3), 2);
         due("where it is, too", x.found(2), 2);
         begin(31, "places 4;person at 0;person at 1;person at 2;person at 3;minds : 1;sends : 2;");
         due("hides", x.hides(0), 0);
@@ -792,6 +809,7 @@ public final class PromiseTest {
 
         begin(37, KIN);
         due("hub", x.hub(), 1);
+        due("hub again", x.hub(), 1);
         begin(37, "places 3;person at 2;person at 2;person at 1;");
         due("most", x.hub(), 2);
         begin(37, "places 3;person at 1;person at 2;");
@@ -910,6 +928,9 @@ public final class PromiseTest {
         x.mood(0, 4);
         x.image(0);
         due("undoing stays", x.undo(1), 0);
+        x.mood(0, 5);
+        x.restore(0);
+        due("the latest one", x.person(0, 3), 4);
 
         begin(45, KIN);
         due("none was made", x.restore(0), -5);
@@ -937,6 +958,7 @@ public final class PromiseTest {
         due("nothing to undo", x.undo(1), -3);
         due("it goes on", x.days(2), 1);
         due("and back", x.undo(1), 0);
+        x.days(1);
         due("again", x.restore(1), 0);
         due("nothing to undo", x.count(6), 0);
         due("of a new object", new MindPost().restore(1), -5);

@@ -135,7 +135,8 @@ public final class RuleTest {
                 bad("a sign that isn't plain at " + i);
             }
         }
-        String code = text.replaceAll("(?s)/\\*.*?\\*/", "").replaceAll("//[^\n]*", "").replaceAll("\"[^\"\n]*\"", "\"\"");
+        String code = text.replaceAll("(?s)/\\*.*?\\*/", "").replaceAll("//[^\n]*", "")
+            .replaceAll("\"[^\"\n]*\"", "\"\"");
         String[] never = {"\\bthrow\\b", "\\btry\\b", "\\bcatch\\b", "\\bsynchronized\\b", "\\bassert\\b", "->", "::",
             "\\bimport\\b", "\\bpackage\\b", "\\bprotected\\b", "Exact\\(", "static \\{", "\\bwhile \\(true\\)",
             "System\\.(?!arraycopy)", "\\bdouble\\b", "\\bfloat\\b", "\"\" \\+", "\\+ \"\"", "\\bvar\\b"};

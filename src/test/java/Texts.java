@@ -8,7 +8,7 @@ final class Texts {
         "places", "person", "at", "home", "family", "mood", "away", "cares", "for", "minds", "sends", "day", "who",
         "of", "kin", "own", "if", "then", "else", "end", "not", "or", "and", ";", ":", "+", "-", "*", "(", ")", "[",
         "]", "=", "<", ">", "0", "1", "2", "5", "6", "9", "10", "11", "999", "1000", "00000", "glad", "at0", "#",
-        "A", "\t", "" + (char) 233, "wh", "places2", "007", "" + (char) 255, "/", "`", "{", "" + (char) 0
+        "A", "\t", "" + (char) 233, "wh", "zz", "az", "places2", "007", "" + (char) 255, "/", "`", "{", "" + (char) 0
     };
     private final Random random;
     private final List<String> tokens = new ArrayList<>();
@@ -119,6 +119,15 @@ final class Texts {
             add("minds", ":");
             add(minds[r(minds.length)].split(" "));
             add(";");
+        }
+        if (r(2) == 0) {
+            inMinds = r(2) == 0;
+            add(inMinds ? "minds" : "sends", ":");
+            sum(6);
+            add(";");
+            if (!inMinds) {
+                return;
+            }
         }
         String[] sends = {"own", "own", "at + 1", "at + who + 1", "own + of", "at * 2 + 1", "own - mood", "at - 1",
             "if kin = 1 then own else home end", "if of < 3 then at + 1 else own end"};

@@ -7,8 +7,8 @@ import java.util.Random;
 
 /** Any arguments in any state, and more calls than are promised: nothing is ever thrown. */
 public final class WildTest {
-    private static final long[] EDGES = {0, 1, -1, 2, 5, 6, 9, 10, 15, 16, 40, 41, 99, 100, 399, 400, 999, 99999, 100000,
-        Integer.MAX_VALUE, Integer.MIN_VALUE, Integer.MAX_VALUE - 1L, Long.MAX_VALUE, Long.MIN_VALUE, 1L << 32};
+    private static final long[] EDGES = {0, 1, -1, 2, 5, 6, 9, 10, 15, 16, 40, 41, 99, 100, 399, 400, 999, 99999,
+        100000, Integer.MAX_VALUE, Integer.MIN_VALUE, Integer.MAX_VALUE - 1L, Long.MAX_VALUE, Long.MIN_VALUE, 1L << 32};
 
     public static void main(String[] args) {
         List<Method> face = new ArrayList<>();
