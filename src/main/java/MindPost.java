@@ -470,36 +470,24 @@ public final class MindPost {
     }
 
     public int found(int p) {
-        if (!isPerson(p)) {
-            return NO_SUCH;
-        }
-        ways.aim(now, p);
-        int best = 0;
-        int most = 0;
-        for (int place = 0; place < told.places; place++) {
-            ways.target = place;
-            int from = Integer.bitCount(ways.sourceBits());
-            if (from > most) {
-                best = place;
-                most = from;
-            }
-        }
-        return best;
+        return isPerson(p) ? bestToBe(p, 1) : NO_SUCH;
     }
 
     public int hides(int p) {
-        if (!isPerson(p)) {
-            return NO_SUCH;
-        }
+        return isPerson(p) ? bestToBe(p, -1) : NO_SUCH;
+    }
+
+    // Where it would be so that it COMES from most PLACES (sign 1) or fewest (sign -1).
+    private int bestToBe(int p, int sign) {
         ways.aim(now, p);
         int best = 0;
-        int fewest = MOST_PLACES + 1;
+        int most = -MOST_PLACES - 1;
         for (int place = 0; place < told.places; place++) {
             ways.target = place;
-            int from = Integer.bitCount(ways.sourceBits());
-            if (from < fewest) {
+            int from = sign * Integer.bitCount(ways.sourceBits());
+            if (from > most) {
                 best = place;
-                fewest = from;
+                most = from;
             }
         }
         return best;
@@ -653,9 +641,7 @@ public final class MindPost {
         }
         ways.aim(now, p);
         chances.begin();
-        for (int day = 0; day < n; day++) {
-            chances.addDay();
-        }
+        chances.addDays(n);
         return chances.lowest(place, what);
     }
 
@@ -672,9 +658,7 @@ public final class MindPost {
             if (chances.given[place] * 100 >= chances.whole * m) {
                 return day;
             }
-            if (day < MOST_CHANCE_DAYS) {
-                chances.addDay();
-            }
+            chances.addDays(1);
         }
         return NONE;
     }
@@ -688,9 +672,7 @@ public final class MindPost {
         }
         ways.aim(now, p);
         chances.begin();
-        for (int day = 0; day < n; day++) {
-            chances.addDay();
-        }
+        chances.addDays(n);
         int best = NONE;
         long most = 0;
         for (int place = 0; place < told.places; place++) {
@@ -1505,27 +1487,27 @@ public final class MindPost {
             if (!told.laws.has(MINDS_LAW)) {
                 return care;
             }
+            setMeaning(q);
+            told.laws.meaning[W_CARES] = care;
+            return told.laws.tell(MINDS_LAW);
+        }
+
+        private void setMeaning(int q) {
             int[] meaning = told.laws.meaning;
             meaning[W_WHO] = q;
             meaning[W_OF] = to;
             meaning[W_MOOD] = now.mood[q];
             meaning[W_KIN] = told.family[q] == told.family[to] ? 1 : 0;
-            meaning[W_CARES] = care;
-            return told.laws.tell(MINDS_LAW);
+            meaning[W_HOME] = told.home[to];
+            meaning[W_OWN] = told.home[q];
         }
 
         private int goalFrom(int q, int at) {
             if (!told.laws.has(SENDS_LAW) || told.places < 1) {
                 return told.home[to];
             }
-            int[] meaning = told.laws.meaning;
-            meaning[W_WHO] = q;
-            meaning[W_OF] = to;
-            meaning[W_MOOD] = now.mood[q];
-            meaning[W_KIN] = told.family[q] == told.family[to] ? 1 : 0;
-            meaning[W_AT] = at;
-            meaning[W_HOME] = told.home[to];
-            meaning[W_OWN] = told.home[q];
+            setMeaning(q);
+            told.laws.meaning[W_AT] = at;
             return Math.floorMod(told.laws.tell(SENDS_LAW), told.places);
         }
 
@@ -1982,11 +1964,13 @@ public final class MindPost {
             }
         }
 
-        void addDay() {
-            System.arraycopy(given, 0, was, 0, MOST_PLACES);
-            whole *= 10;
-            for (int place = 0; place < told.places; place++) {
-                given[place] = place == ways.target ? whole : onFrom(place);
+        void addDays(int n) {
+            for (int day = 0; day < n; day++) {
+                System.arraycopy(given, 0, was, 0, MOST_PLACES);
+                whole *= 10;
+                for (int place = 0; place < told.places; place++) {
+                    given[place] = place == ways.target ? whole : onFrom(place);
+                }
             }
         }
 
