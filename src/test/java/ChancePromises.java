@@ -60,6 +60,11 @@ final class ChancePromises extends Promises {
         due("the first of like ones", x.hub(), 1);
         begin(SIX);
         due("the first of all", x.hub(), 0);
+        due("again", x.hub(), 0);
+        due("meet(0, 5, 0, 5)", 0);
+        tray(0, 5);
+        due("probe(0, 0, 5, 1)", 0);
+        due("after other questions", x.hub(), 0);
         begin("places 6;");
         due("nobody", x.hub(), 0);
         begin("places 6;person at 5;");
@@ -111,6 +116,23 @@ final class ChancePromises extends Promises {
         chance("chance(0, 0, 2, %)", 1, 4);
         chance("chance(0, 0, 3, %)", 1, 2);
         chance("chance(0, 1, 2, %)", 3, 4);
+    }
+
+    void promise38SixPlaces() {
+        says("CHANCE in n DAYS (0 to 15),");
+        StringBuilder text = new StringBuilder("places 6;");
+        for (int p = 0; p < 6; p++) {
+            text.append("person at " + p + " away 5;");
+        }
+        begin(text + "minds : 1;sends : at + 1;");
+        chance("chance(5, 5, 9, %)", 1, 1);
+        chance("chance(5, 4, 1, %)", 1, 2);
+        chance("chance(5, 0, 4, %)", 0, 1);
+        chance("chance(5, 0, 5, %)", 1, 32);
+        chance("chance(0, 5, 1, %)", 1, 2);
+        chance("chance(0, 1, 5, %)", 1, 32);
+        // Not away five times of six, or six times.
+        chance("chance(0, 1, 6, %)", 7, 64);
     }
 
     void promise38NextOne() {
@@ -203,6 +225,10 @@ final class ChancePromises extends Promises {
         due("surest(0, 15)", 2);
         begin(KIN);
         due("surest(0, 1)", 3);
+        begin(awayBy(9));
+        due("1 in 10 is above 0", x.surest(0, 1), 0);
+        begin(awayBy(10));
+        due("0 isn't", x.surest(0, 15), -1);
     }
 
     void promise40None() {

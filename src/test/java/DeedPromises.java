@@ -312,6 +312,23 @@ final class DeedPromises extends Promises {
         refused("undo(1)", -3);
     }
 
+    void promise15AnyNumberOfCalls() {
+        says("the latest first, 10 at most (eldest are forgotten):");
+        for (int calls = 1; calls <= 45; calls++) {
+            begin(KIN);
+            for (int i = 1; i <= calls; i++) {
+                x.mood(0, i * 7 % 10);
+            }
+            int can = Math.min(10, calls);
+            due("count(6)", can);
+            for (int i = 1; i <= can; i++) {
+                due("undo(1)", can - i);
+                due("person(0, 3)", (calls - i) * 7 % 10);
+            }
+            refused("undo(1)", -3);
+        }
+    }
+
     void promise15EachKind() {
         says("Calls that did some can be UNDONE each as a whole,");
         says("PEOPLE, LETTERS, DAY.");
@@ -342,6 +359,30 @@ final class DeedPromises extends Promises {
         due("sent again", x.letter(0, 0), 3);
         due("undo(2)", 0);
         due("count(2)", 0);
+    }
+
+    void promise15SixLetters() {
+        says("PEOPLE, LETTERS, DAY.");
+        begin(LINE);
+        for (int l = 0; l < 6; l++) {
+            due("mail(4, 3)", l);
+        }
+        String before = all();
+        due("days(1)", 6);
+        due("count(3)", 63);
+        due("undo(1)", 6);
+        due("all as it was", all().equals(before) ? 1 : 0, 1);
+        due("count(3)", 0);
+        due("move(4, 3)", 6);
+        due("undo(1)", 6);
+        due("all as it was", all().equals(before) ? 1 : 0, 1);
+        begin(SIX);
+        before = all();
+        due("move(5, 0)", 0);
+        due("mood(5, 9)", 0);
+        due("arouse(5, 4)", 1);
+        due("undo(3)", 0);
+        due("all as it was", all().equals(before) ? 1 : 0, 1);
     }
 
     void promise15CallsThatDidNothing() {

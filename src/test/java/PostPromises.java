@@ -373,6 +373,9 @@ final class PostPromises extends Promises {
         due("given where others are, too", x.move(0, 3) + x.letter(2, 4), -1);
         due("days(1)", 1);
         row("letter(%, 4)", 2, -1, -1, -1);
+        begin(LINE);
+        due("mail(4, 0)", 0);
+        due("person 0, too", x.letter(0, 4), 0);
     }
 
     void promise09NoSuch() {

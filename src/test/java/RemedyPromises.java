@@ -47,6 +47,9 @@ final class RemedyPromises extends Promises {
         row("moves(0, 0, 1%)", 2, 0, 1, 0);
         due("none needed", x.moves(0, 1, 0), 0);
         row("moves(0, 1, 1%)", 2, 1, 1, 0);
+        begin("places 3;person at 1;person at 2;cares 0 for 1 1;");
+        due("person 0, too", x.moves(1, 0, 0), 1);
+        row("moves(1, 0, 1%)", 0, 2);
     }
 
     void promise28None() {
@@ -58,6 +61,9 @@ final class RemedyPromises extends Promises {
         row("moves(0, 0, 1%)", -1, -1, -1);
         begin(SIX);
         row("moves(0, %, 0)", 0, -1, -1, -1, -1, -1);
+        begin("places 3;person at 2;person at 0;minds : 1;sends : at + 1;");
+        // One alone can't send it twice.
+        row("moves(0, %, 0)", -1, 1, 0);
         begin("places 2;person at 1;");
         row("moves(0, %, 0)", -1, 0);
         due("moves(0, 0, 10)", -1);
@@ -94,6 +100,37 @@ final class RemedyPromises extends Promises {
         row("feeling(2, 0, 1%)", 3, 3, 0);
         due("feeling(2, 1, 0)", 3);
         row("feeling(2, 1, 1%)", 0, 3, 0);
+    }
+
+    void promise29SixPeople() {
+        says("10 + q: how often PERSON q is AROUSED (itself: 0).");
+        begin("places 2;person at 1;" + "person at 0;".repeat(5) + "minds : if who = 5 then cares - 8 else 0 end;");
+        due("feeling(0, 0, 0)", 9);
+        row("feeling(0, 0, 1%)", 0, 0, 0, 0, 0, 9, -2);
+        begin("places 2;" + "person at 0;".repeat(5) + "person at 1;cares 0 for 5 9;minds : cares - 3;sends : at;");
+        due("feeling(5, 0, 0)", -1);
+        begin("places 2;" + "person at 0;".repeat(5) + "person at 1;minds : if who = 0 then cares - 1 else 0 end;");
+        row("feeling(5, 0, 1%)", 2, 0, 0, 0, 0, 0);
+    }
+
+    void promise29Itself() {
+        says("(itself: 0)");
+        begin(KEPT);
+        due("feeling(0, 0, 12)", 5);
+        due("of another letter", x.feeling(2, 0, 12), 0);
+    }
+
+    void promise29NineAtMost() {
+        says("FEELING: CARES for it AROUSED now");
+        begin("places 3;person at 0;person at 1;person at 2;cares 0 for 2 9;"
+            + "minds : if who = 1 then 5 else cares - 9 end;sends : 2;");
+        due("0 can't be aroused", x.feeling(2, 0, 0), -1);
+        begin("places 3;person at 0;person at 1;person at 2;cares 0 for 2 8;"
+            + "minds : if who = 1 then 5 else cares - 9 end;sends : 2;");
+        due("0 only once", x.feeling(2, 0, 0), -1);
+        begin("places 3;person at 0;person at 1;person at 2;cares 0 for 2 8;minds : cares - 8;sends : 2;");
+        due("feeling(2, 0, 0)", 1);
+        due("feeling(2, 0, 10)", 1);
     }
 
     void promise29MindingLess() {

@@ -216,6 +216,9 @@ final class SightPromises extends Promises {
         due("from 3", x.suspects(0, 0, 3), 16);
         tray(0, 1, 1, 3);
         due("not kept for a day alone", x.suspects(0, 0, 1), 0);
+        begin("places 2;person at 0;person at 1;cares 0 for 1 3;");
+        tray(0, 0, 0);
+        due("person 0, too", x.suspects(0, 1, 0), 1);
     }
 
     void promise35ItIsSo() {

@@ -103,17 +103,39 @@ final class TextPromises extends Promises {
 
     void promise03NothingOfTheFormerPost() {
         says("are THE POST,");
-        good(KIN, 12);
-        due("mood(2, 7)", 0);
-        good("places 5;person at 4;person at 3;person at 2;person at 1;person at 0;", 6);
-        row("count(%)", 5, 5, 0, 0, 0, 0, 0, 0, 6);
-        row("person(2, %)", 2, 2, 0, 0, 0, 0);
-        row("cares(%, 0)", 0, 0, 0, 0, 0);
+        StringBuilder full = new StringBuilder("places 6;");
+        for (int p = 0; p < 6; p++) {
+            full.append("person at " + p + " home " + (5 - p) + " family 1 mood 2 away 3;");
+        }
+        for (int q = 0; q < 5; q++) {
+            full.append("cares 5 for " + q + " 9;cares " + q + " for 5 9;");
+        }
+        good(full + "sends : own;day 9;", 19);
+        for (int p = 0; p < 6; p++) {
+            row("person(" + p + ", %)", p, 5 - p, 1, 2, 3, 0);
+        }
+        due("count(5)", 90);
+        due("mood(2, 7)", 2);
+        good("places 5;person at 4;person at 3;person at 2;person at 1;person at 0;person at 0;", 7);
+        row("count(%)", 5, 6, 0, 0, 0, 0, 0, 0, 7);
+        for (int p = 0; p < 6; p++) {
+            int at = Math.max(0, 4 - p);
+            row("person(" + p + ", %)", at, at, 0, 0, 0, 0);
+            row("cares(" + p + ", %)", 0, 0, 0, 0, 0, 0);
+        }
         due("no law", x.would(2, 0), 4);
         good(LINE, 8);
         due("minds(1, 0)", 1);
         good("places 5;person at 4;person at 3;", 3);
         due("no law", x.minds(1, 0), 0);
+    }
+
+    void promise03ManyTexts() {
+        says("are THE POST,");
+        for (int i = 1; i <= 9; i++) {
+            good("places 2;person at 0;person at 1;minds : " + i + "+1".repeat(400) + ";", 4);
+            due("minds(0, 1)", 400 + i);
+        }
     }
 
     void promise03Lines() {
@@ -260,6 +282,10 @@ final class TextPromises extends Promises {
         due("minds(0, 1)", 8);
         due("would(0, 1)", 2);
         due("count(4)", 0);
+        good(TWO + "minds:1;sends:2;".repeat(50) + "minds:who+7;sends:at+1;", 105);
+        due("minds(1, 0)", 8);
+        due("would(1, 0)", 2);
+        due("would(0, 1)", 1);
     }
 
     // ---- 4: fault
@@ -422,6 +448,64 @@ final class TextPromises extends Promises {
         fault("places 2;person at 0 at 1;", 2, 21);
         fault("places 2;person at 0 home;", 2, 25);
         fault("places 2;person at 0 1;", 2, 21);
+    }
+
+    /** WHOLE, with what can stand in the place of each TOKEN: the name of one of the sets below. */
+    private static final String SETS = "places 6 ; L at 5 G 0 G 9 G 9 G 10 G L at 0 G L 0 for 1 9 ; L : A A P A P O A "
+        + "O A O A T T T C A E T C A E X T C A D A H A I O L : B O B O B O B O L 999 ;";
+
+    private static String setOf(String name) {
+        String atom = " 1 ( if who of mood kin ";
+        switch (name) {
+            case "L":
+                return " person cares minds sends day ";
+            case "G":
+                return " home family mood away ; ";
+            case "A":
+                return atom + "cares ";
+            case "B":
+                return atom + "at home own ";
+            case "T":
+                return atom + "cares not [ ";
+            case "C":
+                return " + - * = < > ";
+            case "D":
+                return " + - * and or then ";
+            case "E":
+                return " + - * and or ] ";
+            case "X":
+                return " and or then ";
+            case "H":
+                return " + - * else ";
+            case "I":
+                return " + - * end ";
+            case "O":
+                return " + - * ; ";
+            case "P":
+                return " + - * ) ";
+            default:
+                return Character.isDigit(name.charAt(0)) ? " 1 " : " " + name + " ";
+        }
+    }
+
+    void promise04EachInPlaceOfEach() {
+        says("2 it can't stand there");
+        String[] sets = SETS.split(" ");
+        String all = "places person at home family mood away cares for minds sends day who of kin own if then else end "
+            + "not or and ; : + - * ( ) [ ] = < > 1 zz";
+        due("as many", sets.length, WHOLE.length);
+        for (int i = 0; i < WHOLE.length; i++) {
+            String ahead = join(WHOLE, 0, i) + (i > 0 ? " " : "");
+            String behind = " " + join(WHOLE, i + 1, WHOLE.length);
+            for (String token : all.split(" ")) {
+                if (!setOf(sets[i]).contains(" " + token + " ")) {
+                    fault(ahead + token + behind, 2, ahead.length());
+                } else if (!token.equals("1")) {
+                    Calls.tell(x, ahead + token + behind);
+                    due(token + " can stand behind '" + ahead + "'", x.fault(1) == ahead.length() ? 0 : 1, 1);
+                }
+            }
+        }
     }
 
     void promise04TruthsCanNotStand() {

@@ -20,6 +20,20 @@ final class TrayPromises extends Promises {
         due("judge(0, 2)", 31);
     }
 
+    void promise41FortyNought() {
+        says("all 0 (in place of another one): 0.");
+        begin(KIN);
+        for (int last : new int[] {0, 38, 39}) {
+            due("numbers(0, 3, 40)", 0);
+            due("write(0, " + last + ", 1)", 1);
+            due("numbers(0, 3, 40)", 0);
+            for (int i = 0; i < 40; i++) {
+                due("days, but for that one", i == last ? -1 : x.write(0, i, -1), -1);
+            }
+            due("it is 0: a letter to 0 at 0", x.judge(0, 2), 1);
+        }
+    }
+
     void promise41SortInPlaceOfAnother() {
         says("numbers of a sort,");
         says("or have 0 to 40 numbers of 8 bits (sort 0), 16 (1), 32 (2), 64 (3).");
@@ -223,6 +237,43 @@ final class TrayPromises extends Promises {
         row("count(%)", 4, 5, 2, 2, 5, 16, 0, 0, 12);
         row("person(2, %)", 1, 2, 1, 0, 4, 0);
         due("its law", x.would(1, 0), 1);
+    }
+
+    void promise45AllOfSix() {
+        says("All that is in an IMAGE is as it was: 0.");
+        StringBuilder text = new StringBuilder("places 6;");
+        for (int p = 0; p < 6; p++) {
+            text.append("person at " + p + " home " + (5 - p) + " family " + p + " mood " + (9 - p) + " away " + (p + 5)
+                + ";");
+        }
+        begin(text + "cares 5 for 4 3;minds : 0;");
+        for (int l = 0; l < 6; l++) {
+            due("mail(" + l + ", " + (l + l / 3) % 6 + ")", l);
+            due("days(1)", 0);
+        }
+        due("image(0)", 0);
+        due("restore(0)", 0);
+        String then = all();
+        tellAnew(KIN);
+        for (int l = 0; l < 6; l++) {
+            due("mail(0, 1)", l);
+            due("days(9) can be", x.days(9) >= 0 ? 1 : 0, 1);
+        }
+        due("restore(0)", 0);
+        due("all as it was", all().equals(then) ? 1 : 0, 1);
+        row("letter(%, 0)", 0, 1, 2, 4, 5, 0);
+        row("letter(%, 1)", 0, 1, 2, 3, 4, 5);
+        row("letter(%, 2)", 1, 1, 1, 0, 0, 0);
+        row("letter(%, 3)", 0, 0, 0, 3, 2, 1);
+        for (int p = 0; p < 6; p++) {
+            row("person(" + p + ", %)", p, 5 - p, p, 9 - p, p + 5, 1 << p);
+        }
+        due("cares(5, 4)", 3);
+    }
+
+    /** Another text for the same object. */
+    private void tellAnew(String text) {
+        due("post of '" + text + "'", Calls.tell(x, text) > 0 ? 1 : 0, 1);
     }
 
     void promise45NothingToUndoBehind() {
