@@ -1,5 +1,9 @@
 import java.lang.reflect.InvocationTargetException;
 import java.lang.reflect.Method;
+import java.nio.ByteBuffer;
+import java.nio.IntBuffer;
+import java.nio.charset.StandardCharsets;
+import java.util.Arrays;
 
 /** Calls a method of MindPost by its name. */
 final class Calls {
@@ -27,19 +31,13 @@ final class Calls {
         throw new IllegalStateException(name);
     }
 
-    /** Feeds a text, blanks behind it, and posts it: what post() answers. */
+    /** Feeds a text, zeros behind it, and posts it: what post() answers. README.md shows it as it stands here. */
     static int tell(MindPost post, String text) {
-        StringBuilder t = new StringBuilder(text);
-        while (t.length() % 20 != 0) {
-            t.append(' ');
-        }
-        for (int i = 0; i < t.length(); i += 20) {
-            post.feed(four(t, i), four(t, i + 4), four(t, i + 8), four(t, i + 12), four(t, i + 16));
+        byte[] b = Arrays.copyOf(text.getBytes(StandardCharsets.ISO_8859_1), (text.length() + 19) / 20 * 20);
+        IntBuffer ints = ByteBuffer.wrap(b).asIntBuffer();
+        while (ints.hasRemaining()) {
+            post.feed(ints.get(), ints.get(), ints.get(), ints.get(), ints.get());
         }
         return post.post(text.length());
-    }
-
-    private static int four(StringBuilder t, int i) {
-        return t.charAt(i) << 24 | t.charAt(i + 1) << 16 | t.charAt(i + 2) << 8 | t.charAt(i + 3);
     }
 }
